@@ -19,7 +19,7 @@ public final class MendTexts {
     private static final int MOST_EXAMPLES = 3;
     private static final int MOST_WAYS = 1000000;
     /** Above every total that a grammar of 60 signs can cause. */
-    private static final int TOO_MUCH = Integer.MAX_VALUE;
+    private static final int TOO_MUCH = 1 << 30;
 
     private final Pad pad = new Pad();
     private final Grammar rules = new Grammar();
@@ -405,15 +405,6 @@ public final class MendTexts {
         int letterAt(int place) {
             return place >= 0 && place < length && place < letters.length ? letters[place] : -1;
         }
-
-        boolean holds(int letter, int from, int till) {
-            for (int i = from; i < till; i++) {
-                if (letterAt(i) == letter) {
-                    return true;
-                }
-            }
-            return false;
-        }
     }
 
     private static final class Examples {
@@ -587,7 +578,7 @@ public final class MendTexts {
         }
 
         int lengthOf(int slot) {
-            return isSlot(slot) ? lengths[slot] : 0;
+            return slot >= 0 && slot < SLOTS ? lengths[slot] : 0;
         }
 
         int signAt(int slot, int i) {
@@ -599,23 +590,35 @@ public final class MendTexts {
             return slot >= 0 && slot < SLOTS;
         }
 
-        /** Names that stand in a rule of their own or of a name behind them, as bits. */
-        int namesUsedBehind() {
-            int bits = 0;
+        /** Of each name, the names that have it in a rule, as bits. */
+        void findUsers(int[] users) {
+            Arrays.fill(users, 0);
             for (int name = 0; name < NAMES; name++) {
-                for (int i = 0; i < countOf(name); i++) {
-                    bits |= namesIn(slotOf(name, i)) & (1 << name + 1) - 1;
+                int used = namesUsedBy(name);
+                for (int other = 0; other < NAMES && other < users.length; other++) {
+                    users[other] |= (used >> other & 1) << name;
                 }
             }
-            return bits;
         }
 
-        private int namesIn(int slot) {
+        /** Whether the words of the start can hang on the rules of a name. */
+        boolean startUses(int name) {
+            int bits = 1 << start;
+            for (int round = 0; round < NAMES; round++) {
+                for (int other = 0; other < NAMES; other++) {
+                    bits |= (bits >> other & 1) != 0 ? namesUsedBy(other) : 0;
+                }
+            }
+            return (bits >> name & 1) != 0;
+        }
+
+        private int namesUsedBy(int name) {
             int bits = 0;
-            for (int i = 0; i < lengthOf(slot); i++) {
-                int sign = signAt(slot, i);
-                if (sign >= LETTERS) {
-                    bits |= 1 << sign - LETTERS;
+            for (int i = 0; i < countOf(name); i++) {
+                int slot = slotOf(name, i);
+                for (int j = 0; j < lengthOf(slot); j++) {
+                    int sign = signAt(slot, j);
+                    bits |= sign >= LETTERS ? 1 << sign - LETTERS : 0;
                 }
             }
             return bits;
@@ -697,7 +700,7 @@ public final class MendTexts {
      * that the smaller number is the cheaper, then shorter, then first one.
      */
     private static final class Fit {
-        static final long NOTHING = Long.MAX_VALUE;
+        static final long NOTHING = 0x7FFFFFFFFFFFFFFFL;
         private static final int LENGTH_AT = 2 * LONGEST_TEXT;
         private static final int COST_AT = LENGTH_AT + 19;
         private static final long LETTERS_ONLY = (1L << LENGTH_AT) - 1;
@@ -706,11 +709,11 @@ public final class MendTexts {
         private Fit() {
         }
 
-        static long empty(int cost) {
+        static long ofNone(int cost) {
             return (long) cost << COST_AT;
         }
 
-        static long single(int cost, int letter) {
+        static long ofOne(int cost, int letter) {
             return (long) cost << COST_AT | 1L << LENGTH_AT | letter;
         }
 
@@ -726,16 +729,20 @@ public final class MendTexts {
             return (int) (fit >> 2 * (lengthOf(fit) - 1 - j)) & 3;
         }
 
-        static long join(long one, long other) {
+        /** The lesser one of the best fit so far and of two fits, one behind the other. */
+        static long lesser(long best, long one, long other) {
             if (one == NOTHING || other == NOTHING) {
-                return NOTHING;
+                return best;
             }
             long sum = (one & ~LETTERS_ONLY) + (other & ~LETTERS_ONLY);
-            if ((sum >> LENGTH_AT & LENGTH_ONLY) > LONGEST_TEXT) {
-                return sum;
+            if (sum > best) {
+                return best;
             }
-            long behind = other >> LENGTH_AT & LENGTH_ONLY;
-            return sum | (one & LETTERS_ONLY) << 2 * behind | other & LETTERS_ONLY;
+            if ((sum >> LENGTH_AT & LENGTH_ONLY) <= LONGEST_TEXT) {
+                long moved = 2 * (other >> LENGTH_AT & LENGTH_ONLY);
+                sum |= (one & LETTERS_ONLY) << moved | other & LETTERS_ONLY;
+            }
+            return sum < best ? sum : best;
         }
     }
 
@@ -743,14 +750,14 @@ public final class MendTexts {
     private static final class Chart {
         static final int PLACES = LONGEST_WORD + 1;
         private static final int PARTS = PLACES * PLACES;
+        private static final int HEADS = LONGEST_RULE - 2;
 
         final Grammar grammar;
         private final Costs costs;
         private Word word;
-        private final long[] fits = new long[SIGNS * PARTS];
-        /** Of each rule, the least fits of its first sign, first two, three, four signs. */
-        private final long[] heads = new long[Grammar.SLOTS * LONGEST_RULE * PARTS];
-        private int namesToRepeat = 0;
+        /** In rows of parts: first of the signs, then of each rule's first two and first three signs. */
+        private final long[] fits = new long[(SIGNS + Grammar.SLOTS * HEADS) * PARTS];
+        private final int[] users = new int[NAMES];
 
         Chart(Grammar grammar, Costs costs, Word word) {
             this.grammar = grammar;
@@ -760,8 +767,7 @@ public final class MendTexts {
 
         void fill(Word of) {
             word = of;
-            namesToRepeat = grammar.namesUsedBehind();
-            Arrays.fill(fits, Fit.NOTHING);
+            grammar.findUsers(users);
             fillLetters();
             for (int length = 0; length <= word.length; length++) {
                 for (int from = 0; from + length <= word.length; from++) {
@@ -771,8 +777,7 @@ public final class MendTexts {
         }
 
         long fitOf(int sign, int from, int till) {
-            int at = sign * PARTS + from * PLACES + till;
-            return at >= 0 && at < fits.length ? fits[at] : Fit.NOTHING;
+            return fitAt(sign * PARTS + from * PLACES + till);
         }
 
         long leastOf(int name) {
@@ -801,33 +806,36 @@ public final class MendTexts {
             return true;
         }
 
-        private void setFit(int sign, int from, int till, long fit) {
-            int at = sign * PARTS + from * PLACES + till;
+        private long fitAt(int at) {
+            return at >= 0 && at < fits.length ? fits[at] : Fit.NOTHING;
+        }
+
+        private void setFit(int row, int from, int till, long fit) {
+            int at = row * PARTS + from * PLACES + till;
             if (at >= 0 && at < fits.length) {
                 fits[at] = fit;
             }
         }
 
         private void fillLetters() {
-            for (int letter = 0; letter < LETTERS; letter++) {
-                for (int from = 0; from <= word.length; from++) {
-                    for (int till = from; till <= word.length; till++) {
-                        int cost = letterCost(letter, from, till);
-                        setFit(letter, from, till, Fit.single(cost, letter));
+            for (int from = 0; from <= word.length; from++) {
+                int seen = 0;
+                for (int till = from; till <= word.length; till++) {
+                    if (till > from) {
+                        seen |= 1 << word.letterAt(till - 1);
                     }
+                    fillLettersOf(from, till, seen);
                 }
             }
         }
 
-        private int letterCost(int letter, int from, int till) {
-            if (from == till) {
-                return costs.put();
-            }
+        private void fillLettersOf(int from, int till, int seen) {
             int others = (till - from - 1) * costs.drop();
-            if (word.holds(letter, from, till)) {
-                return others;
+            int strange = Math.min(costs.change(), costs.drop() + costs.put());
+            for (int letter = 0; letter < LETTERS; letter++) {
+                int cost = others + ((seen >> letter & 1) != 0 ? 0 : strange);
+                setFit(letter, from, till, Fit.ofOne(from == till ? costs.put() : cost, letter));
             }
-            return others + Math.min(costs.change(), costs.drop() + costs.put());
         }
 
         /**
@@ -836,12 +844,16 @@ public final class MendTexts {
          * it; one more brings the heads of the rules up to it.
          */
         private void settle(int from, int till) {
-            boolean again = true;
-            for (int round = 0; again && round <= NAMES; round++) {
-                again = false;
+            for (int name = 0; name < NAMES; name++) {
+                setFit(LETTERS + name, from, till, Fit.NOTHING);
+            }
+            int stale = (1 << NAMES) - 1;
+            for (int round = 0; stale != 0 && round <= NAMES; round++) {
                 for (int name = NAMES - 1; name >= 0; name--) {
-                    boolean lesser = lessen(name, from, till);
-                    again |= lesser && (namesToRepeat >> name & 1) != 0;
+                    if ((stale >> name & 1) != 0) {
+                        stale &= ~(1 << name);
+                        stale |= lessen(name, from, till) ? users[name] : 0;
+                    }
                 }
             }
         }
@@ -862,32 +874,25 @@ public final class MendTexts {
         private long ruleFit(int slot, int from, int till) {
             int length = grammar.lengthOf(slot);
             if (length == 0) {
-                return Fit.empty((till - from) * costs.drop());
+                return Fit.ofNone((till - from) * costs.drop());
             }
-            long best = fitOf(grammar.signAt(slot, 0), from, till);
-            setHead(slot, 0, from, till, best);
+            int row = grammar.signAt(slot, 0);
+            long best = fitAt(row * PARTS + from * PLACES + till);
             for (int i = 1; i < length; i++) {
-                int sign = grammar.signAt(slot, i);
+                int ahead = row * PARTS + from * PLACES + from;
+                int behind = grammar.signAt(slot, i) * PARTS + from * PLACES + till;
                 best = Fit.NOTHING;
                 for (int at = from; at <= till; at++) {
-                    long fit = Fit.join(headOf(slot, i - 1, from, at), fitOf(sign, at, till));
-                    best = Math.min(best, fit);
+                    best = Fit.lesser(best, fitAt(ahead), fitAt(behind));
+                    ahead++;
+                    behind += PLACES;
                 }
-                setHead(slot, i, from, till, best);
+                row = SIGNS + slot * HEADS + i - 1;
+                if (i + 1 < length) {
+                    setFit(row, from, till, best);
+                }
             }
             return best;
-        }
-
-        private long headOf(int slot, int i, int from, int till) {
-            int at = (slot * LONGEST_RULE + i) * PARTS + from * PLACES + till;
-            return at >= 0 && at < heads.length ? heads[at] : Fit.NOTHING;
-        }
-
-        private void setHead(int slot, int i, int from, int till, long fit) {
-            int at = (slot * LONGEST_RULE + i) * PARTS + from * PLACES + till;
-            if (at >= 0 && at < heads.length) {
-                heads[at] = fit;
-            }
         }
     }
 
@@ -1086,7 +1091,9 @@ public final class MendTexts {
         void seek(int name) {
             bestTotal = TOO_MUCH;
             bestNumber = 0;
-            for (int number = 0; number < Grammar.TRIALS && bestTotal > 0; number++) {
+            // Where the start does not hang on the name, no rule is better than the first one.
+            int trials = grammar.startUses(name) ? Grammar.TRIALS : 1;
+            for (int number = 0; number < trials && bestTotal > 0; number++) {
                 grammar.tryRule(name, number);
                 int sum = totalBelow(bestTotal);
                 if (sum < bestTotal) {
