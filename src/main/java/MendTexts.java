@@ -193,14 +193,14 @@ public final class MendTexts {
         if (!examples.add(typed)) {
             return FULL;
         }
-        forgetAnswers();
+        search.forgetBest();
         return examples.count - 1;
     }
 
     public int forget() {
         int count = examples.count;
         examples.count = 0;
-        forgetAnswers();
+        search.forgetBest();
         return count;
     }
 
@@ -497,7 +497,6 @@ public final class MendTexts {
             System.arraycopy(other.signs, 0, signs, 0, SLOTS * LONGEST_RULE);
             namesTold = other.namesTold;
             start = other.start;
-            last = other.last;
         }
 
         boolean tellName(int name) {

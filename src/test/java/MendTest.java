@@ -160,7 +160,12 @@ final class MendTest {
         ways("A=_", "", 1, "");
         ways("A=abcd", "", 1, "");
         ways("A=ba", "ab", 3, "11");
-        MendTexts x = Check.of("A=BBB;B=aaaa", "bbbbbb");
+        MendTexts x = Check.of("A=ab", "abb");
+        check.due("kept, asked first", x.kept(2), 1);
+        check.due("kept of the first", x.kept(0), 2);
+        Check.word(x, "ba");
+        check.due("kept, asked first", x.kept(0), 1);
+        x = Check.of("A=BBB;B=aaaa", "bbbbbb");
         x.cost(2, 2);
         check.due("all rows cost the same", x.mend(0, 0, 6), 18);
         check.due("all rows of six and twelve", x.ways(), 369305);
