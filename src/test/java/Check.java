@@ -7,22 +7,34 @@ final class Check {
 
     private int wrong = 0;
     private int asked = 0;
+    private String sentence = "";
+
+    /** The sentence of the document that the next answers are asked for. */
+    void sentence(String words) {
+        sentence = words + " -- ";
+    }
 
     void due(String call, int got, int want) {
         asked++;
         if (got != want) {
             wrong++;
             if (wrong <= 40) {
-                System.out.println(call + " answered " + got + ", due is " + want);
+                System.out.println(sentence + call + " answered " + got + ", due is " + want);
             }
         }
+    }
+
+    void due(String call, String got, String want) {
+        holds(call + " is " + want + ", not " + got, got.equals(want));
     }
 
     void holds(String what, boolean so) {
         asked++;
         if (!so) {
             wrong++;
-            System.out.println("not so: " + what);
+            if (wrong <= 40) {
+                System.out.println(sentence + "not so: " + what);
+            }
         }
     }
 
