@@ -110,6 +110,10 @@ final class EdgeMendTest {
         check.due("by itself", Check.of("A=A|AA|a", "aaa").mend(0, 0, 3), 0);
         check.due("through all names", Check.of("A=B;B=C;C=D;D=E;E=F;F=aAb|c", "aacbb").mend(0, 0, 5), 0);
         check.due("through all names", Check.of("F=E;E=D;D=C;C=B;B=A;A=aFb|c", "aacb").mend(5, 0, 4), 1);
+        // What is found last, through all names, stands twice in a rule of its own.
+        MendTexts x = at("F=E|FFa;E=D;D=C;C=B;B=A;A=b", "ba", 9, 1, 1);
+        check.due("through all names, twice", x.mend(5, 0, 2), 1);
+        check.due("its text", Check.text(x), "bba");
     }
 
     private static void mendParts() {

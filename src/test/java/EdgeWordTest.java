@@ -171,6 +171,7 @@ final class EdgeWordTest {
         first("F=A;A=B;B=C;C=D;D=E;E=abF|_", "ababaa", 6);
         first("F=A;A=B;B=C;C=D;D=E;E=abF|_", "b", 1);
         first("A=F;F=E;E=D;D=C;C=B;B=abA|_", "ababaa", 6);
+        first("F=E;E=D;D=C;C=B;B=A;A=abA|_", "ababaa", 6);
     }
 
     private static void firstNone() {
@@ -188,6 +189,8 @@ final class EdgeWordTest {
         first("A=aB|c;B=Bb|_", "abbbbb", Check.NONE);
         first("F=A;A=B;B=C;C=D;D=E;E=abF|_", "ababab", Check.NONE);
         first("A=F;F=E;E=D;D=C;C=B;B=abA|_", "ababab", Check.NONE);
+        first("F=E;E=D;D=C;C=B;B=A;A=abA|_", "ababab", Check.NONE);
+        first("F=E;E=D;D=C;C=B;B=A;A=abF|_", "ababab", Check.NONE);
     }
 
     private static void firstUnknown() {
